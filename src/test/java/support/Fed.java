@@ -1,0 +1,22 @@
+/** Makes objects of the class with a text told to them. */
+final class Fed {
+    private Fed() {
+    }
+
+    static BellSuitors with(String text) {
+        BellSuitors x = new BellSuitors();
+        tell(x, text);
+        return x;
+    }
+
+    static int tell(BellSuitors x, String text) {
+        feed(x, text);
+        return x.tower();
+    }
+
+    static void feed(BellSuitors x, String text) {
+        for (int i = 0; i < text.length(); i++) {
+            x.feed(text.charAt(i));
+        }
+    }
+}
