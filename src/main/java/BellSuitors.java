@@ -30,7 +30,9 @@ public final class BellSuitors {
     private final Text text = new Text(draft);
     private final Evening evening = new Evening();
     private final Past past = new Past();
-    private final Image[] images = new Image[IMAGES];
+    private final Evening[] images = new Evening[IMAGES];
+    private final int[] imageSeeds = new int[IMAGES];
+    private int imagesKept = 0;
     private final Seen seen = new Seen();
     private final Touches touches = new Touches(seen, tower);
     private final RopeSharing sharing = new RopeSharing();
@@ -43,7 +45,7 @@ public final class BellSuitors {
 
     public BellSuitors() {
         for (int i = 0; i < IMAGES; i++) {
-            images[i] = new Image();
+            images[i] = new Evening();
         }
     }
 
@@ -68,9 +70,7 @@ public final class BellSuitors {
         evening.begin(tower);
         notebook.empty(tower);
         past.forget();
-        for (int i = 0; i < IMAGES; i++) {
-            images[i].kept = false;
-        }
+        imagesKept = 0;
         return tower.bells;
     }
 
@@ -442,9 +442,9 @@ public final class BellSuitors {
         if (i < 0 || i >= IMAGES) {
             return UNKNOWN;
         }
-        images[i].evening.copyFrom(evening);
-        images[i].seedThen = seedNow;
-        images[i].kept = true;
+        images[i].copyFrom(evening);
+        imageSeeds[i] = seedNow;
+        imagesKept |= 1 << i;
         past.forget();
         return 1;
     }
@@ -453,11 +453,11 @@ public final class BellSuitors {
         if (i < 0 || i >= IMAGES) {
             return UNKNOWN;
         }
-        if (!images[i].kept) {
+        if ((imagesKept >> i & 1) == 0) {
             return NOT;
         }
-        evening.copyFrom(images[i].evening);
-        seedNow = images[i].seedThen;
+        evening.copyFrom(images[i]);
+        seedNow = imageSeeds[i];
         past.forget();
         return 1;
     }
@@ -1096,12 +1096,6 @@ public final class BellSuitors {
             evening.copyFrom(evenings[next]);
             return true;
         }
-    }
-
-    private static final class Image {
-        final Evening evening = new Evening();
-        int seedThen;
-        boolean kept;
     }
 
     /** ROWS that have come, a bit each: five PLACES tell the sixth, so 15 bits of a ROW are enough. */
