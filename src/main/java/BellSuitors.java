@@ -24,6 +24,7 @@ public final class BellSuitors {
     private static final int BILLION = 1000000000;
     private static final int IMAGES = 2;
     private static final int ODDS_OF_A_DRAW = 8;
+    private static final long SEED_BITS = 2147483647L;
 
     private Tower tower = new Tower();
     private Tower draft = new Tower();
@@ -496,7 +497,7 @@ public final class BellSuitors {
     }
 
     private int draw(int n) {
-        seedNow = (int) ((seedNow * 1103515245L + 12345L) & Integer.MAX_VALUE);
+        seedNow = (int) ((seedNow * 1103515245L + 12345L) & SEED_BITS);
         return n > 0 ? seedNow / 65536 % n : 0;
     }
 
@@ -527,7 +528,7 @@ public final class BellSuitors {
     /** Of the BELLS that may be late: how many at most would be heard alike, if row were listened to. */
     private int greatestPartAlike(int row) {
         int count = 0;
-        for (int b = 0; b < tower.bells; b++) {
+        for (int b = 0; b < tower.bells && b < MOST_BELLS; b++) {
             if ((notebook.late >> b & 1) != 0) {
                 heardRows[count++] = Rows.withLate(row, b, tower.bells);
             }

@@ -88,6 +88,8 @@ public final class PromiseTest {
         is("tear()", x.tear(), 0);
         is("told(12)", x.told(12), 0);
         is("seed(0)", x.seed(0), 0);
+        is("goBack(0)", x.goBack(0), NOT);
+        is("goBack(1)", x.goBack(1), NOT);
     }
 
     private static void feed() {
@@ -458,6 +460,9 @@ public final class PromiseTest {
         is("forgive(-1)", x.forgive(-1), UNKNOWN);
         x.ring(1);
         is("out again", x.told(6), 2);
+        is("undo()", x.undo(), 3);
+        is("undo()", x.undo(), 2);
+        is("forgiven undone", x.told(6), 4);
     }
 
     private static long lcg = 0;
@@ -659,6 +664,18 @@ public final class PromiseTest {
         x = Fed.with("b1,1,1;m7;c1;");
         is("touch(2, 0)", x.touch(2, 0), 1);
         is("touch(2, 1)", x.touch(2, 1), 3);
+        x = Fed.with("b1,1,1;m1,1,4,4;c7;");
+        is("rounds in the middle of a lead", x.touch(1, 0), 0);
+        x = Fed.with("b1,1,1,1;m12,3,12,12,12,3;c15;");
+        is("alike in the middle of a lead", x.touch(1, 0), 0);
+        x = Fed.with("b1,1,1,1;m12,3,12,3;c15;");
+        is("a lead comes round", x.touch(1, 0), 1);
+        is("a lead comes round", x.touch(1, 1), 0);
+        is("two are alike", x.touch(2, 0), 0);
+        x = Fed.with(BOB);
+        is("touch(3, 0)", x.touch(3, 0), 2);
+        is("touch(3, 1)", x.touch(3, 1), 0);
+        is("touch(6, 0)", x.touch(6, 0), 0);
         x = Fed.with(SIX);
         is("touch(5, 0)", x.touch(5, 0), 1);
         is("touch(8, 0)", x.touch(8, 0), 2);
@@ -728,6 +745,7 @@ public final class PromiseTest {
         is("of those not out", x.nextOut(), 2);
         x.ring(1);
         is("one alone", x.nextOut(), NONE);
+        is("behind a whole lead", Fed.with(BOB).nextOut(), 1);
         is("never", Fed.with("b1,1,1;r1;r1;").nextOut(), NONE);
         is("one suitor", Fed.with("b1,1,1;m1;r1;").nextOut(), NONE);
         is("no suitor", Fed.with("b1,1,1;m1;").nextOut(), NONE);
