@@ -148,6 +148,13 @@ public final class PromiseTest {
         all("told", everythingTold(x), 0, 0, 0, 0, 0, 0, 0, NONE, 0, 0, 0, 0, 0, 0, 0);
         is("seed", x.seed(5), 5);
         is("ring(1)", x.ring(1), NOT);
+        Fed.tell(x, SHORT);
+        x.swap(0, 2);
+        x.swap(1, 2);
+        Fed.tell(x, SHORT);
+        for (int r = 0; r < 3; r++) {
+            is("ropes as at first", x.suitor(r, 1), r);
+        }
         is("no m, no c", Fed.tell(x, "b1,2,3,4,5;"), 5);
         is("told(1)", x.told(1), 1);
         is("method(0)", x.method(0), 31);
@@ -676,6 +683,12 @@ public final class PromiseTest {
         is("touch(3, 0)", x.touch(3, 0), 2);
         is("touch(3, 1)", x.touch(3, 1), 0);
         is("touch(6, 0)", x.touch(6, 0), 0);
+        x.trueFor();
+        is("behind trueFor()", x.touch(3, 0), 2);
+        x.gap(0, 500);
+        is("behind gap()", x.touch(3, 0), 2);
+        is("gap() behind touch()", x.gap(0, 500), 6);
+        is("trueFor() behind gap()", x.trueFor(), 23);
         x = Fed.with(SIX);
         is("touch(5, 0)", x.touch(5, 0), 1);
         is("touch(8, 0)", x.touch(8, 0), 2);
@@ -903,6 +916,14 @@ public final class PromiseTest {
         is("now", x.judge(), 0);
         x.stand();
         is("again", x.judge(), 2);
+        x.ring(1);
+        x.tear();
+        is("torn entries are not judged", x.judge(), NONE);
+        x.write(0, 1);
+        is("nor those behind the last", x.judge(), NONE);
+        BellSuitors y = Fed.with(BOB);
+        y.ring(1);
+        is("empty, not in rounds", y.judge(), NONE);
     }
 
     private static void seed() {
