@@ -1083,8 +1083,8 @@ public final class BellSuitors {
         }
 
         void remember(Evening evening) {
-            evenings[next].copyFrom(evening);
-            next = next + 1 < MOST_KEPT ? next + 1 : 0;
+            evenings[within(next)].copyFrom(evening);
+            next = within(next + 1);
             kept = Math.min(MOST_KEPT, kept + 1);
         }
 
@@ -1092,10 +1092,15 @@ public final class BellSuitors {
             if (kept == 0) {
                 return false;
             }
-            next = next > 0 ? next - 1 : MOST_KEPT - 1;
+            next = within(next - 1);
             kept--;
             evening.copyFrom(evenings[next]);
             return true;
+        }
+
+        /** Comes round at both ends of the ring: MOST_KEPT is a power of two. */
+        private static int within(int i) {
+            return i & MOST_KEPT - 1;
         }
     }
 

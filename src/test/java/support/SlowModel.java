@@ -141,17 +141,9 @@ final class SlowModel {
             (kind.equals("b") ? t.weights : t.strengths).add(v);
         } else {
             if (v >= Math.pow(2, t.weights.size())) throw new Fault(2, k.at());
-            if (!isChange(v, t.weights.size())) throw new Fault(4, k.at());
+            if (!ByHand.isChange(v, t.weights.size())) throw new Fault(4, k.at());
             (kind.equals("m") ? t.method : t.call).add(v);
         }
-    }
-
-    /** The places as a text, 's' stays, 'x' does not: each run of x is even. */
-    private static boolean isChange(int set, int places) {
-        StringBuilder s = new StringBuilder();
-        for (int p = 0; p < places; p++) s.append((set & (1 << p)) != 0 ? 's' : 'x');
-        for (String run : s.toString().split("s")) if (run.length() % 2 != 0) return false;
-        return true;
     }
 
     int tower() {
@@ -201,27 +193,7 @@ final class SlowModel {
     }
 
     private String rounds() {
-        return "123456".substring(0, bells());
-    }
-
-    private static int asNumber(String row) {
-        return row.isEmpty() ? 0 : Integer.parseInt(row);
-    }
-
-    private static String changed(String row, int set) {
-        char[] c = row.toCharArray();
-        int p = 0;
-        while (p < c.length) {
-            if ((set & (1 << p)) != 0) {
-                p++;
-            } else {
-                char k = c[p];
-                c[p] = c[p + 1];
-                c[p + 1] = k;
-                p += 2;
-            }
-        }
-        return new String(c);
+        return ByHand.rounds(bells());
     }
 
     private boolean isRow(int v) {
@@ -259,7 +231,7 @@ final class SlowModel {
         for (int i = 0; i < n; i++) {
             int set = told.method.get((now.sinceStand + i) % told.method.size());
             if (i == 0 && now.called) set = told.call.get(0);
-            rows.add(changed(rows.get(i), set));
+            rows.add(ByHand.changed(rows.get(i), set));
         }
         return rows;
     }
@@ -267,7 +239,7 @@ final class SlowModel {
     private List<String> plain(int n) {
         List<String> rows = new ArrayList<>();
         rows.add(rounds());
-        for (int i = 0; i < n; i++) rows.add(changed(rows.get(i), told.method.get(i % told.method.size())));
+        for (int i = 0; i < n; i++) rows.add(ByHand.changed(rows.get(i), told.method.get(i % told.method.size())));
         return rows;
     }
 
@@ -283,19 +255,13 @@ final class SlowModel {
         return r;
     }
 
-    private static String heardWith(String row, int bell) {
-        int p = row.indexOf((char) ('1' + bell));
-        if (p == row.length() - 1) return row;
-        return row.substring(0, p) + row.charAt(p + 1) + row.charAt(p) + row.substring(p + 2);
-    }
-
     private Set<Integer> late() {
         Set<Integer> fits = new HashSet<>();
         for (int b = 0; b < bells(); b++) {
             boolean all = true;
             for (int[] h : heardAt) {
                 String was = plain(h[0]).get(h[0]);
-                all &= heardWith(was, b).equals(Integer.toString(h[1]));
+                all &= ByHand.heardWith(was, b).equals(Integer.toString(h[1]));
             }
             if (all) fits.add(b);
         }
@@ -311,7 +277,7 @@ final class SlowModel {
             case 2 -> suitors();
             case 3 -> text.length();
             case 4 -> now.rung;
-            case 5 -> asNumber(now.row);
+            case 5 -> ByHand.asNumber(now.row);
             case 6 -> setOf(now.out);
             case 7 -> wed();
             case 8 -> now.called ? 1 : 0;
@@ -376,7 +342,7 @@ final class SlowModel {
         if (now.rung > 9000) return FULL;
         remember();
         for (int i = 0; i < n; i++) ringOne();
-        return asNumber(now.row);
+        return ByHand.asNumber(now.row);
     }
 
     int call() {
@@ -402,7 +368,7 @@ final class SlowModel {
     int stand() {
         if (noTower()) return NOT;
         remember();
-        int was = asNumber(now.row);
+        int was = ByHand.asNumber(now.row);
         now.row = rounds();
         now.sinceStand = 0;
         now.called = false;
@@ -427,8 +393,8 @@ final class SlowModel {
     }
 
     private int draw(int n) {
-        seed = (seed * 1103515245L + 12345L) % 2147483648L;
-        return (int) (seed / 65536 % n);
+        seed = ByHand.nextSeed(seed);
+        return ByHand.drawOf(seed, n);
     }
 
     int drift(int n) {
@@ -447,7 +413,7 @@ final class SlowModel {
             }
             ringOne();
         }
-        return asNumber(now.row);
+        return ByHand.asNumber(now.row);
     }
 
     int undo() {
@@ -459,7 +425,7 @@ final class SlowModel {
     int rowAt(int n) {
         if (n < 0 || n > 500) return OUTSIDE;
         if (noTower()) return NOT;
-        return asNumber(ahead(n).get(n));
+        return ByHand.asNumber(ahead(n).get(n));
     }
 
     int placeAt(int b, int n) {
@@ -502,7 +468,7 @@ final class SlowModel {
             for (int i = 0; i < told.method.size(); i++) {
                 rows.add(row);
                 boolean called = i == told.method.size() - 1 && (set >> l) % 2 == 1;
-                row = changed(row, called ? told.call.get(0) : told.method.get(i));
+                row = ByHand.changed(row, called ? told.call.get(0) : told.method.get(i));
             }
         }
         return row.equals(rounds()) && new HashSet<>(rows).size() == rows.size();
@@ -565,7 +531,7 @@ final class SlowModel {
     int change(int row, int other) {
         if (!isRow(row) || !isRow(other)) return OUTSIDE;
         for (int set = 0; set < 1 << bells(); set++) {
-            if (isChange(set, bells()) && asNumber(changed(Integer.toString(row), set)) == other) return set;
+            if (ByHand.isChange(set, bells()) && ByHand.asNumber(ByHand.changed(Integer.toString(row), set)) == other) return set;
         }
         return NONE;
     }
@@ -573,7 +539,7 @@ final class SlowModel {
     int follow() {
         if (noTower()) return NOT;
         int count = 0;
-        for (int set = 0; set < (1 << bells()) - 1; set++) if (isChange(set, bells())) count++;
+        for (int set = 0; set < (1 << bells()) - 1; set++) if (ByHand.isChange(set, bells())) count++;
         return count;
     }
 
@@ -607,7 +573,7 @@ final class SlowModel {
         List<String> rows = plain(99);
         for (int n = 0; n <= 99; n++) {
             Map<String, Integer> parts = new HashMap<>();
-            for (int b : late) parts.merge(heardWith(rows.get(n), b), 1, Integer::sum);
+            for (int b : late) parts.merge(ByHand.heardWith(rows.get(n), b), 1, Integer::sum);
             int greatest = 0;
             for (int part : parts.values()) greatest = Math.max(greatest, part);
             if (greatest < best) {
