@@ -290,6 +290,8 @@ final class BookBounds {
         held.is("by THE CALL", x.drift(1), 123);
         held.is("told(8)", x.told(8), 0);
         held.is("told(10)", x.told(10), 1);
+        held.is("no more than that: not WET", x.told(9), 0);
+        held.is("one DRAW", x.seed(0), ByHand.nextSeed(SEED_FOR[0]));
         x.call();
         x.seed(SEED_FOR[0]);
         held.is("CALLED already: by THE CALL, once", x.drift(1), 123);
@@ -307,7 +309,7 @@ final class BookBounds {
         x.drift(1);
         held.is("it was not", x.told(9), 1);
         held.is("ahead of the ROW", x.suitor(0, 2), 1);
-        x.seed(SEED_FOR[1]);
+        held.is("no more than that: one DRAW", x.seed(SEED_FOR[1]), ByHand.nextSeed(SEED_FOR[1]));
         x.drift(1);
         held.is("it was", x.told(9), 0);
         held.is("ahead of the ROW", x.suitor(0, 2), 1);
@@ -338,6 +340,7 @@ final class BookBounds {
                     held.is(n + " SUITORS, suitor(" + s + ", 1)", x.suitor(s, 1), s == r ? q : s == q ? r : s);
                 }
                 held.is("ahead of the ROW: TIRED by BELL 5", x.suitor(n - 1, 2), n == 6 && r < 4 ? 8 : 0);
+                held.is("no more than that: not WET", x.told(9), 0);
             }
         }
     }
@@ -405,51 +408,38 @@ final class BookBounds {
         return x;
     }
 
-    private static int[] evening(BellSuitors x) {
-        int[] all = new int[15];
-        for (int what = 0; what < 6; what++) {
-            all[what] = x.told(new int[] {4, 5, 6, 8, 9, 10}[what]);
-        }
-        for (int r = 0; r < 3; r++) {
-            all[6 + r] = x.suitor(r, 1);
-            all[9 + r] = x.suitor(r, 2);
-            all[12 + r] = x.suitor(r, 3);
-        }
-        return all;
-    }
-
     private void images() {
         held.terms(35, "IMAGES 0, 1 keep all of section 2, THE SEED.");
         BellSuitors x = busy();
-        int[] first = evening(x);
+        int[] first = Probe.evening(x);
         x.keep(0);
         x.stand();
         x.wet(false);
         x.drift(30);
         x.forgive(1);
         x.seed(100);
-        int[] second = evening(x);
+        int[] second = Probe.evening(x);
         x.keep(1);
         x.drift(7);
         x.hear(0, 2134);
         x.write(0, 0);
         x.feed('b');
         x.goBack(0);
-        held.same("IMAGE 0", evening(x), first);
+        held.same("IMAGE 0", Probe.evening(x), first);
         held.is("its SEED", x.seed(3), 99);
         held.same("no more than that", new int[] {x.told(3), x.told(11), x.told(13)}, 1, 1, 1);
         x.goBack(1);
-        held.same("IMAGE 1", evening(x), second);
+        held.same("IMAGE 1", Probe.evening(x), second);
         held.is("its SEED", x.seed(3), 100);
         x.ring(50);
         x.goBack(0);
-        held.same("IMAGE 0 again: ringing on leaves it", evening(x), first);
+        held.same("IMAGE 0 again: ringing on leaves it", Probe.evening(x), first);
         x.ring(1);
-        int[] third = evening(x);
+        int[] third = Probe.evening(x);
         x.keep(0);
         x.ring(1);
         x.goBack(0);
-        held.same("kept anew", evening(x), third);
+        held.same("kept anew", Probe.evening(x), third);
     }
 
     private void keep() {

@@ -88,14 +88,6 @@ final class RefusalBounds {
         held.is("56 hundredths", new BellSuitors().dry(8, 7), 0);
     }
 
-    private static BellSuitors withRows(int rows) {
-        BellSuitors x = Fed.with(BOB);
-        for (int left = rows; left > 0; left -= 200) {
-            x.ring(Math.min(200, left));
-        }
-        return x;
-    }
-
     private void unknownFirst() {
         held.terms(7, "REFUSALS, of several the first in this order: UNKNOWN");
         BellSuitors none = new BellSuitors();
@@ -134,7 +126,7 @@ final class RefusalBounds {
         held.is("touch: OUTSIDE, NOT", none.touch(9, 1), OUTSIDE);
         held.is("touch: OUTSIDE, NOT", none.touch(1, 2), OUTSIDE);
         held.is("touch: OUTSIDE, NOT", none.touch(1, -1), OUTSIDE);
-        BellSuitors x = withRows(9001);
+        BellSuitors x = Fed.rung(BOB, 9001);
         held.is("ring: OUTSIDE, FULL", x.ring(0), OUTSIDE);
         held.is("ring: OUTSIDE, FULL", x.ring(201), OUTSIDE);
         held.is("drift: OUTSIDE, FULL", x.drift(0), OUTSIDE);
@@ -168,7 +160,7 @@ final class RefusalBounds {
         held.is("follow", none.follow(), NOT);
         held.is("listen", none.listen(), NOT);
         held.is("goBack", none.goBack(0), NOT);
-        BellSuitors gone = withRows(9001);
+        BellSuitors gone = Fed.rung(BOB, 9001);
         gone.tower();
         held.is("no TOWER any more: NOT, and no ROW RUNG", gone.ring(1), NOT);
         held.is("no TOWER any more: NOT, and no ROW RUNG", gone.drift(1), NOT);
@@ -180,7 +172,7 @@ final class RefusalBounds {
 
     private void fullLast() {
         held.terms(9, "FULL.");
-        BellSuitors x = withRows(9001);
+        BellSuitors x = Fed.rung(BOB, 9001);
         held.is("ring", x.ring(1), FULL);
         held.is("drift", x.drift(1), FULL);
         held.is("other calls are not", x.stand() > 0 ? 1 : 0, 1);
@@ -241,7 +233,7 @@ final class RefusalBounds {
 
     /** Images, a past, a heard list and a book that are full, rows enough, somebody out, THE CALL called, half a text. */
     private static BellSuitors full() {
-        BellSuitors x = withRows(8900);
+        BellSuitors x = Fed.rung(BOB, 8900);
         x.seed(77);
         x.keep(0);
         x.wet(true);

@@ -485,17 +485,9 @@ final class RingBounds {
         held.is("ring(200)", new BellSuitors().ring(200), NOT);
     }
 
-    private static BellSuitors rung(int rows) {
-        BellSuitors x = Fed.with(SHORT);
-        for (int left = rows; left > 0; left -= 200) {
-            x.ring(Math.min(200, left));
-        }
-        return x;
-    }
-
     private void ringIsFull() {
         held.promise(9, "FULL: ROWS RUNG are above 9000.");
-        BellSuitors x = rung(9000);
+        BellSuitors x = Fed.rung(SHORT, 9000);
         held.is("9000 are not above", x.ring(200), 123);
         held.is("told(4)", x.told(4), 9200);
         held.is("9200 are", x.ring(1), FULL);
@@ -507,7 +499,7 @@ final class RingBounds {
         held.is("stood, they are still RUNG", x.ring(1), FULL);
         Fed.tell(x, SHORT);
         held.is("a new TOWER", x.ring(1), 132);
-        held.is("8999", rung(8999).ring(1), 123);
+        held.is("8999", Fed.rung(SHORT, 8999).ring(1), 123);
     }
 
     private void call() {
@@ -610,7 +602,7 @@ final class RingBounds {
 
     private void driftIsFull() {
         held.promise(15, "FULL: ROWS RUNG are above 9000.");
-        BellSuitors x = rung(9000);
+        BellSuitors x = Fed.rung(SHORT, 9000);
         held.is("9000 are not above", x.drift(60) > 0 ? 1 : 0, 1);
         held.is("told(4)", x.told(4), 9060);
         int seed = x.seed(5);
@@ -654,7 +646,7 @@ final class RingBounds {
             }
             held.is(acts + " acts, undo()", x.undo(), NOT);
         }
-        BellSuitors x = rung(4000);
+        BellSuitors x = Fed.rung(SHORT, 4000);
         for (int i = 0; i < 5; i++) {
             x.undo();
         }
@@ -693,24 +685,19 @@ final class RingBounds {
         held.is("no other call, nor undo() itself", x.told(14), 6);
         held.is("THE BOOK stays", x.told(13), 1);
         held.terms(16, "all of section 2 is as ahead of it;");
-        held.same("ahead of drift()", evening(x), 2, 123, 4, 0, 1, 0, 1, 0, 2, 0, 0, 0);
+        held.same("ahead of drift()", Probe.evening(x), 2, 123, 4, 0, 1, 0, 1, 0, 2, 0, 0, 0);
         x.undo();
-        held.same("ahead of forgive()", evening(x), 2, 123, 6, 0, 1, 0, 1, 0, 2, 0, 0, 0);
+        held.same("ahead of forgive()", Probe.evening(x), 2, 123, 6, 0, 1, 0, 1, 0, 2, 0, 0, 0);
         x.undo();
-        held.same("ahead of wet()", evening(x), 2, 123, 6, 0, 0, 0, 1, 0, 2, 0, 0, 0);
+        held.same("ahead of wet()", Probe.evening(x), 2, 123, 6, 0, 0, 0, 1, 0, 2, 0, 0, 0);
         x.undo();
-        held.same("ahead of stand()", evening(x), 2, 123, 6, 1, 0, 0, 1, 0, 2, 16, 8, 16);
+        held.same("ahead of stand()", Probe.evening(x), 2, 123, 6, 1, 0, 0, 1, 0, 2, 16, 8, 16);
         x.undo();
-        held.same("ahead of swap()", evening(x), 2, 123, 6, 1, 0, 0, 0, 1, 2, 16, 8, 16);
+        held.same("ahead of swap()", Probe.evening(x), 2, 123, 6, 1, 0, 0, 0, 1, 2, 16, 8, 16);
         x.undo();
-        held.same("ahead of call()", evening(x), 2, 123, 6, 0, 0, 0, 0, 1, 2, 16, 8, 16);
+        held.same("ahead of call()", Probe.evening(x), 2, 123, 6, 0, 0, 0, 0, 1, 2, 16, 8, 16);
         x.undo();
-        held.same("ahead of ring()", evening(x), 0, 123, 0, 0, 0, 0, 0, 1, 2, 0, 0, 0);
-    }
-
-    private static int[] evening(BellSuitors x) {
-        return new int[] {x.told(4), x.told(5), x.told(6), x.told(8), x.told(9), x.told(10),
-            x.suitor(0, 1), x.suitor(1, 1), x.suitor(2, 1), x.suitor(0, 2), x.suitor(1, 2), x.suitor(2, 2)};
+        held.same("ahead of ring()", Probe.evening(x), 0, 123, 0, 0, 0, 0, 0, 1, 2, 0, 0, 0);
     }
 
     private void seedStays() {

@@ -43,6 +43,7 @@ final class TextBounds {
         methodLeftOut();
         callLeftOut();
         textIsEmptyThen();
+        textReadAnew();
         towerBegins();
         faultLeavesAll();
         latestFault();
@@ -461,6 +462,18 @@ final class TextBounds {
         }
     }
 
+    private void textReadAnew() {
+        held.promise(3, "THE TEXT (it is empty then, with a FAULT, too)");
+        BellSuitors x = new BellSuitors();
+        String[] texts = {"b1,1,1;m1;c1;r1;r1;r1;x", "b2,2,2;m4;c4;r2;r2;r2;", "b3,3,3;m1,4;c7;r3;r3;r3;", "b1,1,1;m1;m", "b4,4,4,4;m0;c9;r4;r4;r4;r4;",
+            "b1,1,1;r1;c1;m1,5;", "b5,5,5;"};
+        int[] due = {FAULT1, 3, 3, FAULT3, 4, FAULT4, 3};
+        for (int i = 0; i < texts.length; i++) {
+            held.is("of what older texts told nothing is left: tower() of '" + texts[i] + "'", Fed.tell(x, texts[i]), due[i]);
+        }
+        held.same("told", new int[] {x.told(1), x.told(2), x.method(0), x.method(NONE), x.bell(2, 0)}, 1, 0, 7, 7, 5);
+    }
+
     private static BellSuitors afterAnEvening() {
         BellSuitors x = Fed.with("b9,9,9;m1;r1;r1;r1;c4;");
         x.seed(77);
@@ -538,8 +551,7 @@ final class TextBounds {
         held.is("behind an empty one", x.fault(), NONE);
         Fed.tell(x, " ".repeat(240));
         held.is("behind blanks", x.fault(), NONE);
-        Fed.tell(x, " ".repeat(239) + "b");
-        held.is("the greatest", x.fault(), 240);
+        held.is("the greatest", Fed.with(" ".repeat(239) + "b").fault(), 240);
     }
 
     private void methodBounds() {

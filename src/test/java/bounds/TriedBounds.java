@@ -22,6 +22,7 @@ final class TriedBounds {
 
     void test() {
         nothingChanges();
+        inAnyOrder();
         rowAt();
         calledNoMore();
         placeAt();
@@ -44,6 +45,7 @@ final class TriedBounds {
         changeNoRow();
         follow();
         gap();
+        everyPairOfChanges();
         dry();
     }
 
@@ -94,6 +96,23 @@ final class TriedBounds {
         x.listen();
         x.judge();
         held.same("all that can be read", Probe.everything(x), Probe.everything(busy()));
+    }
+
+    private void inAnyOrder() {
+        held.terms(21, "TRIED from now; nothing changes by it.");
+        BellSuitors x = Fed.with(BOB);
+        for (int i = 0; i < 2; i++) {
+            held.is("trueFor()", x.trueFor(), 23);
+            held.is("touch(3, 0) behind trueFor()", x.touch(3, 0), 2);
+            held.is("gap(0, 500) behind touch()", x.gap(0, 500), 6);
+            held.is("touch(3, 1) behind gap()", x.touch(3, 1), 0);
+            held.is("trueFor() behind touch()", x.trueFor(), 23);
+            held.is("gap(3, 24) behind trueFor()", x.gap(3, 24), 6);
+            held.is("round()", x.round(), 24);
+            held.is("nextOut() behind round()", x.nextOut(), 1);
+            held.is("ropes(-1)", x.ropes(NONE), 1);
+            held.is("last(0, 8)", x.last(0, 8), 2);
+        }
     }
 
     private void rowAt() {
@@ -527,6 +546,35 @@ final class TriedBounds {
         for (int n : new int[] {0, -1, 501, MIN, MAX}) {
             held.is("gap(0, " + n + ")", y.gap(0, n), OUTSIDE);
         }
+    }
+
+    private void everyPairOfChanges() {
+        held.terms(27, "how many are unlike each other.");
+        for (int set = 0; set < 64; set++) {
+            for (int other = 0; other < 64; other++) {
+                if (ByHand.isChange(set, 6) && ByHand.isChange(other, 6)) {
+                    unlikeBySets(set, other);
+                }
+            }
+        }
+    }
+
+    private void unlikeBySets(int set, int other) {
+        List<String> rows = rows(new int[] {set, other}, 6, 60, LONG_CALL);
+        BellSuitors x = Fed.with("b1,1,1,1,1,1;m" + set + "," + other + ";c48;");
+        x.call();
+        for (int b = 0; b < 6; b++) {
+            Set<String> unlike = new HashSet<>();
+            for (String row : rows) {
+                unlike.add(row.replace(Integer.toString(b + 1), ""));
+            }
+            held.is("m" + set + "," + other + ", gap(" + b + ", 60)", x.gap(b, 60), unlike.size());
+        }
+        int n = 1;
+        while (rows.indexOf(rows.get(n)) == n) {
+            n++;
+        }
+        held.is("m" + set + "," + other + ", trueFor()", x.trueFor(), n - 1);
     }
 
     private void dry() {

@@ -19,4 +19,13 @@ final class Fed {
             x.feed(text.charAt(i));
         }
     }
+
+    /** With so many ROWS RUNG by as few calls as can be. */
+    static BellSuitors rung(String text, int rows) {
+        BellSuitors x = with(text);
+        for (int left = rows; left > 0; left -= 200) {
+            x.ring(Math.min(200, left));
+        }
+        return x;
+    }
 }

@@ -9,10 +9,10 @@ final class Probe {
     private Probe() {
     }
 
-    /** What is so now; nothing changes by it. */
-    static int[] now(BellSuitors x) {
+    /** All of section 2: ROWS RUNG, the ROW, who is OUT, CALLED, WET, CHANGES of this LEAD; then all ropes; then who is how TIRED. */
+    static int[] evening(BellSuitors x) {
         Probe p = new Probe();
-        p.readNow(x);
+        p.readEvening(x);
         return p.all();
     }
 
@@ -63,9 +63,10 @@ final class Probe {
         for (int what : new int[] {4, 5, 6, 8, 9, 10}) {
             add(x.told(what));
         }
-        for (int r = 0; r < SUITORS; r++) {
-            add(x.suitor(r, 1));
-            add(x.suitor(r, 2));
+        for (int what = 1; what <= 2; what++) {
+            for (int r = 0; r < SUITORS; r++) {
+                add(x.suitor(r, what));
+            }
         }
     }
 }
