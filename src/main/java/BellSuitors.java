@@ -28,14 +28,14 @@ public final class BellSuitors {
 
     private Tower tower = new Tower();
     private Tower draft = new Tower();
-    private final Text text = new Text(draft);
+    private final Text text = new Text();
     private final Evening evening = new Evening();
     private final Past past = new Past();
     private final Evening[] images = new Evening[IMAGES];
     private final int[] imageSeeds = new int[IMAGES];
     private int imagesKept = 0;
     private final Seen seen = new Seen();
-    private final Touches touches = new Touches(seen, tower);
+    private final Touches touches = new Touches();
     private final RopeSharing sharing = new RopeSharing();
     private final Walk trial = new Walk();
     private final Change tried = new Change();
@@ -276,7 +276,7 @@ public final class BellSuitors {
         if (!tower.stands()) {
             return NOT;
         }
-        touches.search(tower, n);
+        touches.search(tower, seen, n);
         return what == 0 ? touches.count : touches.first;
     }
 
@@ -768,14 +768,9 @@ public final class BellSuitors {
         int length;
         int faultAt = NONE;
         private final int[] letters = new int[MOST_LETTERS];
-        private Tower target;
         private int at;
         private int numberAt;
         private int wrong;
-
-        Text(Tower draft) {
-            target = draft;
-        }
 
         boolean add(int letter) {
             if (length >= MOST_LETTERS) {
@@ -787,18 +782,17 @@ public final class BellSuitors {
 
         /** Answers the number of the FAULT, FINE if there is none; THE TEXT is empty then. */
         int readInto(Tower draft) {
-            target = draft;
-            target.clear();
+            draft.clear();
             at = 0;
             wrong = FINE;
             faultAt = NONE;
             skipBlanks();
             for (int clause = 0; clause < MOST_LETTERS && at < length && wrong == FINE; clause++) {
-                readClause();
+                readClause(draft);
                 skipBlanks();
             }
             if (wrong == FINE) {
-                target.complete();
+                draft.complete();
             }
             length = 0;
             return wrong;
@@ -819,9 +813,9 @@ public final class BellSuitors {
             faultAt = where;
         }
 
-        private void readClause() {
+        private void readClause(Tower draft) {
             int word = letterHere();
-            int number = faultOfWord(word);
+            int number = faultOfWord(word, draft);
             if (number != FINE) {
                 fail(number, at);
                 return;
@@ -830,23 +824,23 @@ public final class BellSuitors {
             int most = mostNumbers(word);
             boolean open = true;
             for (int told = 1; told <= most && open; told++) {
-                int value = readNumber(word);
-                if (wrong == FINE && !enter(word, value)) {
+                int value = readNumber(word, draft);
+                if (wrong == FINE && !enter(word, value, draft)) {
                     fail(ODD, numberAt);
                 }
                 open = wrong == FINE && goesOn(word, told);
             }
         }
 
-        private int faultOfWord(int word) {
-            if (!target.stands()) {
+        private static int faultOfWord(int word, Tower draft) {
+            if (!draft.stands()) {
                 return word == 'b' ? FINE : MISPLACED;
             }
             switch (word) {
                 case 'b': return TOO_MANY;
-                case 'm': return target.changes > 0 ? TOO_MANY : FINE;
-                case 'r': return target.suitors < target.bells ? FINE : TOO_MANY;
-                case 'c': return target.callTold ? TOO_MANY : FINE;
+                case 'm': return draft.changes > 0 ? TOO_MANY : FINE;
+                case 'r': return draft.suitors < draft.bells ? FINE : TOO_MANY;
+                case 'c': return draft.callTold ? TOO_MANY : FINE;
                 default: return MISPLACED;
             }
         }
@@ -874,7 +868,7 @@ public final class BellSuitors {
             return more;
         }
 
-        private int readNumber(int word) {
+        private int readNumber(int word, Tower draft) {
             skipBlanks();
             numberAt = at;
             int value = 0;
@@ -887,7 +881,7 @@ public final class BellSuitors {
             int figures = at - numberAt;
             if (figures == 0) {
                 fail(MISPLACED, at);
-            } else if (figures > MOST_FIGURES || !withinBounds(word, value)) {
+            } else if (figures > MOST_FIGURES || !withinBounds(word, value, draft)) {
                 fail(BEYOND, numberAt);
             }
             return value;
@@ -897,25 +891,25 @@ public final class BellSuitors {
             return letter >= '0' && letter <= '9';
         }
 
-        private boolean withinBounds(int word, int value) {
+        private static boolean withinBounds(int word, int value, Tower draft) {
             if (word == 'b' || word == 'r') {
                 return value >= 1 && value <= HEAVIEST;
             }
-            return value <= target.allPlaces();
+            return value <= draft.allPlaces();
         }
 
-        private boolean enter(int word, int value) {
+        private static boolean enter(int word, int value, Tower draft) {
             switch (word) {
                 case 'b':
-                    target.addBell(value);
+                    draft.addBell(value);
                     return true;
                 case 'r':
-                    target.addSuitor(value);
+                    draft.addSuitor(value);
                     return true;
                 case 'm':
-                    return target.addChange(value);
+                    return draft.addChange(value);
                 default:
-                    return target.tellCall(value);
+                    return draft.tellCall(value);
             }
         }
     }
@@ -1137,28 +1131,20 @@ public final class BellSuitors {
     private static final class Touches {
         int count;
         int first;
-        private final Seen seen;
-        private Tower tower;
         private int leads;
         private int rounds;
 
-        Touches(Seen seen, Tower tower) {
-            this.seen = seen;
-            this.tower = tower;
-        }
-
-        void search(Tower ofTower, int ofLeads) {
-            tower = ofTower;
+        void search(Tower tower, Seen seen, int ofLeads) {
             leads = Math.min(ofLeads, MOST_LEADS);
             rounds = Rows.rounds(tower.bells);
             count = 0;
             first = NONE;
             seen.clear();
-            goOn(rounds, 0, 0);
+            goOn(tower, seen, rounds, 0, 0);
         }
 
         /** A LEAD's ROWS are here its head and all but its end, which is the next one's head. */
-        private void goOn(int head, int lead, int set) {
+        private void goOn(Tower tower, Seen seen, int head, int lead, int set) {
             int row = head;
             int entered = 0;
             boolean unlike = seen.add(row);
@@ -1168,23 +1154,23 @@ public final class BellSuitors {
                 unlike = seen.add(row);
             }
             if (unlike) {
-                endLead(tower.changeAt(tower.changes - 1).next(row), lead, set);
-                endLead(tower.theCall.next(row), lead, set | 1 << lead);
+                endLead(tower, seen, tower.changeAt(tower.changes - 1).next(row), lead, set);
+                endLead(tower, seen, tower.theCall.next(row), lead, set | 1 << lead);
                 entered++;
             }
-            leave(head, entered);
+            leave(tower, seen, head, entered);
         }
 
-        private void endLead(int row, int lead, int set) {
+        private void endLead(Tower tower, Seen seen, int row, int lead, int set) {
             if (lead + 1 < leads) {
-                goOn(row, lead + 1, set);
+                goOn(tower, seen, row, lead + 1, set);
             } else if (row == rounds) {
                 first = count == 0 ? set : Math.min(first, set);
                 count++;
             }
         }
 
-        private void leave(int head, int entered) {
+        private static void leave(Tower tower, Seen seen, int head, int entered) {
             int row = head;
             for (int i = 0; i < entered; i++) {
                 seen.remove(row);

@@ -22,6 +22,9 @@ public final class LanguageTest {
         "throw", "throws", "try", "catch", "finally", "synchronized", "assert", "static\\s*\\{", "->", "::", "\\w+Exact", "null", "Object",
         "protected", "volatile", "record\\s+\\w+\\(.*\\)\\s*\\{.*->", "System\\.(?!arraycopy)", "Random", "Thread", "HashMap", "hashCode", "toString",
         "@SuppressWarnings", "\\[\\]\\[\\]\\[\\]", "while\\s*\\(true\\)", "for\\s*\\(;;\\)"};
+    /** Of what rule 4 lists, what a class without texts and lists can need. */
+    private static final Set<String> LIBRARY = Set.of("Integer.bitCount", "Integer.numberOfTrailingZeros", "Integer.compare", "Math.max",
+        "Math.min", "Math.abs", "Math.floorDiv", "Math.floorMod", "Arrays.fill", "Arrays.copyOf", "Arrays.copyOfRange", "System.arraycopy");
     private static final Due due = new Due();
 
     public static void main(String[] args) throws IOException {
@@ -35,9 +38,19 @@ public final class LanguageTest {
         }
         due.is("imports", count(code, "import (?!java\\.util\\.(Arrays|ArrayList|List|Iterator);)"), 0);
         due.is("package lines", count(code, "(?m)^\\s*package\\b"), 0);
-        due.is("constructor, constants", CONSTANTS.size(), 5);
+        due.is("texts", count(code, "\"|\\bString"), 0);
+        libraryOf(code);
         lengths(code);
+        depths();
         due.end();
+    }
+
+    private static void depths() {
+        CallGraph graph = new CallGraph(BellSuitors.class);
+        due.is("methods were found: " + graph.methods(), graph.methods() > 100 ? 1 : 0, 1);
+        due.is("calls go so deep: " + graph.deepest(), graph.deepest() <= 8 ? 1 : 0, 1);
+        // These two carry the LEAD as their depth, and go no deeper than eight.
+        due.is("recursion: " + graph.recursive(), graph.recursive().equals(Set.of("goOn", "endLead")) ? 1 : 0, 1);
     }
 
     private static String wordPattern(String wrong) {
@@ -96,11 +109,29 @@ public final class LanguageTest {
         for (Field f : c.getDeclaredFields()) {
             if (Modifier.isStatic(f.getModifiers())) {
                 due.is(f + " is final", Modifier.isFinal(f.getModifiers()) ? 1 : 0, 1);
+                due.is(f + " is a number", f.getType() == int.class || f.getType() == long.class ? 1 : 0, 1);
             } else {
+                due.is(f + " is of a type that is left", isLeft(f.getType()) ? 1 : 0, 1);
                 own++;
             }
         }
+        // A constructor that takes nothing is handed nothing of the object that makes it.
+        for (Constructor<?> made : c.getDeclaredConstructors()) {
+            due.is(made + " takes nothing", made.getParameterCount(), 0);
+        }
         due.is(c + " has some twenty fields at most: " + own, own <= 20 ? 1 : 0, 1);
+    }
+
+    private static boolean isLeft(Class<?> type) {
+        Class<?> of = type.isArray() ? type.getComponentType() : type;
+        return of == int.class || of == long.class || of == boolean.class || of.getEnclosingClass() == BellSuitors.class;
+    }
+
+    private static void libraryOf(String code) {
+        Matcher m = Pattern.compile("\\b(Integer|Long|Math|Arrays|System|Character|Objects|List)\\.(\\w+)").matcher(code.replaceAll("(?m)^import.*$", ""));
+        while (m.find()) {
+            due.is(m.group() + " is of the library that is left", LIBRARY.contains(m.group()) ? 1 : 0, 1);
+        }
     }
 
     /** Comments and texts do not count as code. */
