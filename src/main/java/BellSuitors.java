@@ -40,7 +40,6 @@ public final class BellSuitors {
     private final Walk trial = new Walk();
     private final Change tried = new Change();
     private final Notebook notebook = new Notebook();
-    private final int[] heardRows = new int[MOST_BELLS];
     private int faultAt = NONE;
     private int seedNow = 0;
 
@@ -401,7 +400,7 @@ public final class BellSuitors {
         trial.begin(tower);
         // A greatest part of one cannot be bettered, so the look ahead ends there.
         for (int n = 0; n < LISTENED && least > 1; n++) {
-            int greatest = greatestPartAlike(trial.row);
+            int greatest = notebook.greatestPartAlike(trial.row, tower);
             if (greatest < least) {
                 least = greatest;
                 best = n;
@@ -523,25 +522,6 @@ public final class BellSuitors {
             int q = draw(tower.suitors);
             evening.changeRopes(r, q);
         }
-    }
-
-    /** Of the BELLS that may be late: how many at most would be heard alike, if row were listened to. */
-    private int greatestPartAlike(int row) {
-        int count = 0;
-        for (int b = 0; b < tower.bells && b < MOST_BELLS; b++) {
-            if ((notebook.late >> b & 1) != 0) {
-                heardRows[count++] = Rows.withLate(row, b, tower.bells);
-            }
-        }
-        int greatest = 0;
-        for (int i = 0; i < count; i++) {
-            int alike = 0;
-            for (int k = 0; k < count; k++) {
-                alike += heardRows[k] == heardRows[i] ? 1 : 0;
-            }
-            greatest = Math.max(greatest, alike);
-        }
-        return greatest;
     }
 
     /** ROWS held in one int, three bits a PLACE, so that a CHANGE is a few masks and nothing is made while ringing. */
@@ -1248,6 +1228,32 @@ public final class BellSuitors {
                     late &= ~(1 << b);
                 }
             }
+        }
+
+        /** Of the BELLS that may be late: how many at most would be heard alike, if this ROW were listened to. */
+        int greatestPartAlike(int row, Tower tower) {
+            int greatest = 0;
+            for (int b = 0; b < tower.bells; b++) {
+                if (mayBeLate(b)) {
+                    greatest = Math.max(greatest, heardAlike(row, b, tower));
+                }
+            }
+            return greatest;
+        }
+
+        private int heardAlike(int row, int bell, Tower tower) {
+            int heardRow = Rows.withLate(row, bell, tower.bells);
+            int alike = 0;
+            for (int b = 0; b < tower.bells; b++) {
+                if (mayBeLate(b) && Rows.withLate(row, b, tower.bells) == heardRow) {
+                    alike++;
+                }
+            }
+            return alike;
+        }
+
+        private boolean mayBeLate(int b) {
+            return (late >> b & 1) != 0;
         }
 
         boolean enter(int bell, int place) {
